@@ -1276,26 +1276,36 @@ public final class StuckRecord {
             return false;
         }
 
-        /** C, in which so many ( and not are open. */
+        /** C, in which so many ( and not are open; two not undo one another. */
         private boolean single(int open) {
-            boolean not = isWord(NOT, NOT);
-            if (not || isSign('(')) {
-                if (open >= MOST_OPEN) {
-                    return fail(FAULT_MANY);
+            int now = open;
+            for (; now < MOST_OPEN && isWord(NOT, NOT); now++) {
+                step();
+            }
+            boolean nested = isSign('(');
+            if (now >= MOST_OPEN && (nested || isWord(NOT, NOT))) {
+                return fail(FAULT_MANY);
+            }
+            if (nested) {
+                step();
+                if (!condition(now + 1) || !takeSign(')')) {
+                    return false;
+                }
+            } else {
+                if (!expression()) {
+                    return false;
+                }
+                int sign = isSign('<') ? Law.BELOW : isSign('=') ? Law.ALIKE : isSign('>') ? Law.ABOVE : NONE;
+                if (sign == NONE) {
+                    return fail(FAULT_PLACE);
                 }
                 step();
-                return not ? single(open + 1) && emit(Law.OTHERWISE)
-                        : condition(open + 1) && takeSign(')');
+                if (!expression()) {
+                    return false;
+                }
+                emit(sign);
             }
-            if (!expression()) {
-                return false;
-            }
-            int sign = isSign('<') ? Law.BELOW : isSign('=') ? Law.ALIKE : isSign('>') ? Law.ABOVE : NONE;
-            if (sign == NONE) {
-                return fail(FAULT_PLACE);
-            }
-            step();
-            return expression() && emit(sign);
+            return (now - open) % 2 == 0 || emit(Law.OTHERWISE);
         }
 
         /** E: a + or - waits until the T behind it is written. */
@@ -1612,7 +1622,7 @@ public final class StuckRecord {
             if (bare != bare(there)) {
                 return 0;
             }
-            int ways = tried(0, 0);
+            int ways = tried(here, there, became, 0, 0);
             for (int i = 2; i <= bare; i++) {
                 ways *= i;
             }
@@ -1640,24 +1650,24 @@ public final class StuckRecord {
         }
 
         /** In how many ways the points from this one on find theirs among those not used. */
-        private int tried(int point, int used) {
+        private static int tried(int[] here, int[] there, int[] became, int point, int used) {
             if (point >= POINTS) {
                 return 1;
             }
             if (here[point] == 0) {
-                return tried(point + 1, used);
+                return tried(here, there, became, point + 1, used);
             }
             int ways = 0;
             for (int to = 0; to < POINTS; to++) {
-                if ((used >> to & 1) == 0 && fits(point, to)) {
+                if ((used >> to & 1) == 0 && fits(here, there, became, point, to)) {
                     became[point] = to;
-                    ways += tried(point + 1, used | 1 << to);
+                    ways += tried(here, there, became, point + 1, used | 1 << to);
                 }
             }
             return ways;
         }
 
-        private boolean fits(int point, int to) {
+        private static boolean fits(int[] here, int[] there, int[] became, int point, int to) {
             if (Integer.bitCount(here[point]) != Integer.bitCount(there[to])) {
                 return false;
             }
