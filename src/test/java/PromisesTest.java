@@ -132,6 +132,9 @@ public final class PromisesTest {
         due("p5 boil to -1", x.act(1, 0, -1), false);
         due("p5 another what", x.act(2, 0, 0), false);
         due("p5 another what", x.act(-1, 0, 0), false);
+        due("p5 boil the first", x.act(1, 0, 0), true);
+        due("p5 boil the last", x.act(1, 59, 1), true);
+        due("p5 boiled", x.inch(0, 0) + 100 * x.inch(59, 0), 100);
         due("p5 boil", x.act(1, 4, 99), true);
         due("p5 boiled", x.inch(4, 0), 99);
         due("p5 no line of it", x.look(8), 1);
@@ -319,7 +322,11 @@ public final class PromisesTest {
         fault(0, "sticks 1   ", 1, 11);
         fault(0, "sticks 1 2;", 1, 9);
         fault(0, "sticks 1;;", 1, 9);
-        fault(0, "sticksX 1;", 1, 0);
+        for (String letter : new String[] {"A", "Z", "a", "z"}) fault(0, "sticks" + letter + " 1;", 1, 0);
+        for (String sign : new String[] {"@", "[", "`", "{", "/", ":", "\u00e9", "\0"}) fault(0, "sticks" + sign + " 1;", 1, 6);
+        fault(0, ";".repeat(400), 1, 0);
+        fault(0, "frees 1" + "+1".repeat(196) + ";", 0, -1);
+        fault(0, "frees 1" + "+1".repeat(196) + "+", 1, 400);
         fault(0, "sticks 1\t;", 1, 8);
         fault(0, "sticks 00000;", 1, 7);
         fault(0, "sticks 0000;", 0, -1);
@@ -649,6 +656,10 @@ public final class PromisesTest {
             x.sight(-1);
             due("p23 wrong", x.sight(s), -1);
         }
+        x.sight(-1);
+        for (int i = 0; i < 8; i++) x.sight(1 << i + 4);
+        due("p24 all eight", x.cover(0), 8);
+        due("p24 all eight", x.cover(1), 255);
         due("p24 another what", x.cover(2), -1);
         due("p24 another what", x.cover(-1), -1);
     }
@@ -731,6 +742,11 @@ public final class PromisesTest {
         due("p30 wrong", x.go(10), -1);
         due("p30 wrong", x.go(-2), -1);
         due("p30 wrong", x.go(LEAST), -1);
+        Check.tell(x, 0, "frees 500 when wind=9;frees 499;");
+        due("p30 9 is the least", x.go(-1), 9);
+        Check.tell(x, 0, "frees 500 when wind=0 and inch=0;frees 0;");
+        due("p30 0 is the least", x.go(-1), 0);
+        due("p30 one of two", x.go(0), 1);
         Check.tell(x, 0, "frees 499;");
         due("p30 never", x.go(-1), -1);
         due("p30 9", x.go(9), 0);
