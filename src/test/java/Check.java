@@ -28,7 +28,7 @@ final class Check {
     }
 
     /** The text comes behind the TAPE. */
-    static void feed(StuckRecord x, String text) {
+    static void feed(Counted x, String text) {
         int length = 0;
         for (int at = 0; at < text.length(); at += 20) {
             int[] v = numbers(text, at);
@@ -48,7 +48,7 @@ final class Check {
         return v;
     }
 
-    static int tell(StuckRecord x, int k, String text) {
+    static int tell(Counted x, int k, String text) {
         feed(x, text);
         return x.text(k);
     }

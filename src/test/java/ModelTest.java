@@ -1,3 +1,6 @@
+import java.util.ArrayList;
+import java.util.Collections;
+import java.util.List;
 import java.util.Random;
 
 /** Random runs of calls, each asked of the class and of the model. The seeds are fixed. */
@@ -12,7 +15,7 @@ public final class ModelTest {
     private final Random random;
     private final Check check;
     private final int run;
-    private final StuckRecord x = new StuckRecord();
+    private final Counted x = new Counted();
     private final Model m = new Model();
 
     private ModelTest(Check check, int run) {
@@ -23,7 +26,7 @@ public final class ModelTest {
 
     public static void main(String[] args) {
         Check check = new Check("ModelTest");
-        for (int run = 0; run < 600; run++) {
+        for (int run = 0; run < 2400; run++) {
             new ModelTest(check, run).play();
         }
         check.finish();
@@ -57,15 +60,16 @@ public final class ModelTest {
         check.due("run " + run + ": " + call, got, want);
     }
 
+    /** Calls by chance, and what is left of the 512 calls for all that can be seen, in an order by chance. */
     private void play() {
-        for (int call = 0; call < 480; call++) {
+        int spared = run % 3 == 0 ? 40 : 250;
+        while (x.left() > spared) {
             switch (up(4)) {
                 case 0 -> change();
                 case 1 -> tellText();
                 case 2 -> ask();
                 default -> askMore();
             }
-            if (up(60) == 0) compareAll();
         }
         compareAll();
     }
@@ -289,13 +293,23 @@ public final class ModelTest {
     }
 
     private void compareAll() {
-        for (int w = 0; w < 15; w++) due("look(" + w + ")", x.look(w), m.look(w));
-        for (int i = 0; i < 60; i++) for (int w = 0; w < 3; w++) due("inch(" + i + ")", x.inch(i, w), m.inch(i, w));
-        for (int t : m.world.things.keySet()) {
-            for (int w = 0; w < 10; w++) due("of(" + t + ", " + w + ")", x.of(t, w), m.of(t, w));
+        List<int[]> questions = new ArrayList<>();
+        for (int w = 0; w < 15; w++) questions.add(new int[] {0, w, 0});
+        for (int i = 0; i < 60; i++) for (int w = 0; w < 3; w++) questions.add(new int[] {1, i, w});
+        for (int t : m.world.things.keySet()) for (int w = 0; w < 10; w++) questions.add(new int[] {2, t, w});
+        for (int i = 0; i < m.world.book.size(); i++) for (int w = 0; w < 4; w++) questions.add(new int[] {3, i, w});
+        Collections.shuffle(questions, random);
+        for (int[] q : questions) {
+            if (x.left() > 0) compare(q[0], q[1], q[2]);
         }
-        for (int i = 0; i < m.world.book.size(); i++) {
-            for (int w = 0; w < 4; w++) due("book(" + i + ", " + w + ")", x.book(i, w), m.book(i, w));
+    }
+
+    private void compare(int call, int a, int w) {
+        switch (call) {
+            case 0 -> due("look(" + a + ")", x.look(a), m.look(a));
+            case 1 -> due("inch(" + a + ", " + w + ")", x.inch(a, w), m.inch(a, w));
+            case 2 -> due("of(" + a + ", " + w + ")", x.of(a, w), m.of(a, w));
+            default -> due("book(" + a + ", " + w + ")", x.book(a, w), m.book(a, w));
         }
     }
 }

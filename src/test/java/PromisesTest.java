@@ -53,7 +53,7 @@ public final class PromisesTest {
     }
 
     private static void fresh() {
-        StuckRecord x = new StuckRecord();
+        Counted x = new Counted();
         for (int i = 0; i < 60; i++) {
             due("p1 glue", x.inch(i, 0), 50);
             due("p1 legs", x.inch(i, 1), 0);
@@ -68,7 +68,7 @@ public final class PromisesTest {
     }
 
     private static void states() {
-        StuckRecord x = new StuckRecord();
+        Counted x = new Counted();
         due("p2 first", x.state(77), 0);
         due("p2 second", x.state(LEAST), 77);
         due("p2 as it is", x.look(9), LEAST);
@@ -76,7 +76,7 @@ public final class PromisesTest {
     }
 
     private static void sets() {
-        StuckRecord x = new StuckRecord();
+        Counted x = new Counted();
         due("p3 glue", x.set(0, 59, 99), true);
         due("p3 glue is", x.inch(59, 0), 99);
         due("p3 glue 0", x.set(0, 0, 0), true);
@@ -102,7 +102,7 @@ public final class PromisesTest {
     }
 
     private static void puts() {
-        StuckRecord x = new StuckRecord();
+        Counted x = new Counted();
         for (int[] w : new int[][] {{-1, 1, 0, 0}, {6, 1, 0, 0}, {0, 0, 0, 0}, {0, 10, 0, 0}, {0, 1, -1, 0}, {0, 1, 10, 0},
             {0, 1, 0, -1}, {0, 1, 0, 60}, {0, 1, 0, LEAST}, {0, 1, 0, MOST}}) {
             due("p4 wrong", x.put(w[0], w[1], w[2], w[3]), -1);
@@ -123,7 +123,7 @@ public final class PromisesTest {
     }
 
     private static void acts() {
-        StuckRecord x = new StuckRecord();
+        Counted x = new Counted();
         x.put(1, 2, 3, 4);
         due("p5 tweeze none", x.act(0, 1, 0), false);
         due("p5 boil 60", x.act(1, 60, 5), false);
@@ -149,7 +149,7 @@ public final class PromisesTest {
 
     /** SKY comes ahead of FLIGHT; what is taken takes no draw and no line; glue less by SIZE. */
     private static void dayOrder() {
-        StuckRecord x = new StuckRecord();
+        Counted x = new Counted();
         due("p9 sky", Check.tell(x, 2, "on 0 boil 5 3;on 0 dry 2;on 0 wind 4;on 0 boil 6 100;"), -1);
         due("p9 sky", Check.tell(x, 2, "on 0 boil 5 3;on 0 dry 2;on 0 wind 4;on 1 dry 99;"), 4);
         due("p9 flight", Check.tell(x, 1, "on 0 wasp 9 1 at 5;on 0 fly 1 1 at 5;on 0 fly 1 1 at 7;"), 3);
@@ -172,7 +172,7 @@ public final class PromisesTest {
     }
 
     private static void dayStruggle() {
-        StuckRecord x = new StuckRecord();
+        Counted x = new Counted();
         Check.tell(x, 0, "frees 1000;");
         x.put(4, 3, 2, 10);
         due("p6 five days lose five legs", x.days(5), 0);
@@ -205,7 +205,7 @@ public final class PromisesTest {
     }
 
     private static void daySlide() {
-        StuckRecord x = new StuckRecord();
+        Counted x = new Counted();
         Check.tell(x, 0, "frees 0;slides 3 when kind=0;slides 9;");
         x.put(0, 1, 0, 10);
         x.put(0, 1, 0, 11);
@@ -243,7 +243,7 @@ public final class PromisesTest {
     }
 
     private static void dayLimits() {
-        StuckRecord x = new StuckRecord();
+        Counted x = new Counted();
         for (int n : new int[] {0, -1, 61, LEAST, MOST}) due("p6 wrong", x.days(n), -1);
         x.put(0, 1, 0, 0);
         for (int i = 0; i < 166; i++) x.days(60);
@@ -258,7 +258,7 @@ public final class PromisesTest {
     }
 
     private static void tapes() {
-        StuckRecord x = new StuckRecord();
+        Counted x = new Counted();
         for (int i = 1; i <= 20; i++) due("p7 feed", x.feed(0, 1, 2, 3, 4), 20 * i);
         due("p7 full", x.feed(0, 0, 0, 0, 0), -1);
         due("p8 more than it has", x.end(401), false);
@@ -292,7 +292,7 @@ public final class PromisesTest {
     }
 
     private static void fault(int k, String text, int what, int place) {
-        StuckRecord x = new StuckRecord();
+        Counted x = new Counted();
         int lines = Check.tell(x, k, text);
         due("p9 " + text, lines < 0 ? -1 : 0, what == 0 ? 0 : -1);
         due("p10 fault of " + text, x.fault(0), what);
@@ -300,7 +300,7 @@ public final class PromisesTest {
     }
 
     private static void texts() {
-        StuckRecord x = new StuckRecord();
+        Counted x = new Counted();
         due("p9 blanks", Check.tell(x, 0, " \n \n"), 0);
         due("p9 joined tokens", Check.tell(x, 1, "on0fly1 0at\n59;on 999veil9 9at0;"), 2);
         due("p9 sixteen", Check.tell(x, 0, "frees 0;".repeat(16)), 16);
@@ -386,7 +386,7 @@ public final class PromisesTest {
     }
 
     private static void value(String e, int want) {
-        StuckRecord x = new StuckRecord();
+        Counted x = new Counted();
         x.put(3, 7, 4, 20);
         x.put(0, 1, 1, 30);
         x.put(0, 1, 1, 19);
@@ -433,7 +433,7 @@ public final class PromisesTest {
         value("10 when (0-7)/2 = 0-3", 0);
         value("10 when 0-7/2 = 0-3", 10);
         value("10 when 9999*9999*9999 < 0;frees 1", 9999 * 9999 * 9999 < 0 ? 10 : 1);
-        StuckRecord x = new StuckRecord();
+        Counted x = new Counted();
         x.put(0, 1, 9, 0);
         x.set(0, 0, 30);
         x.set(4, 0, 1);
@@ -449,7 +449,7 @@ public final class PromisesTest {
     }
 
     private static void inches() {
-        StuckRecord x = new StuckRecord();
+        Counted x = new Counted();
         x.put(0, 1, 1, 59);
         x.put(5, 2, 3, 0);
         due("p11 thing", x.inch(59, 2), 0);
@@ -466,7 +466,7 @@ public final class PromisesTest {
     }
 
     private static void books() {
-        StuckRecord x = new StuckRecord();
+        Counted x = new Counted();
         for (int i = 0; i < 74; i++) {
             x.put(0, 1, 1, 5);
             x.act(0, i, 0);
@@ -491,7 +491,7 @@ public final class PromisesTest {
     }
 
     private static void thoughts() {
-        StuckRecord x = new StuckRecord();
+        Counted x = new Counted();
         Check.tell(x, 0, "sticks 500 when inch=5;sticks 499;frees 500 when kind=0;frees 499;slides 0;");
         Check.tell(x, 1, "on 0 fly 4 9 at 5;on 0 date 4 9 at 6;");
         Check.tell(x, 2, "on 1 heat 5;");
@@ -516,7 +516,7 @@ public final class PromisesTest {
     }
 
     private static void heapsAndNearest() {
-        StuckRecord x = new StuckRecord();
+        Counted x = new Counted();
         x.put(1, 1, 1, 30);
         x.put(1, 1, 1, 9);
         due("p15 nearest", x.nearest(1), 1);
@@ -540,7 +540,7 @@ public final class PromisesTest {
     }
 
     private static void sayings() {
-        StuckRecord x = new StuckRecord();
+        Counted x = new Counted();
         for (int i = 0; i < 8; i++) due("p17 kind", x.kind(3), i + 1);
         due("p17 the ninth", x.kind(3), -1);
         due("p18 not there", x.says(0), 0);
@@ -556,7 +556,7 @@ public final class PromisesTest {
         due("p17 wrong", x.kind(-2), -1);
         due("p18 empty", x.says(0), 1);
         due("p18 empty", x.says(1), 1);
-        StuckRecord y = new StuckRecord();
+        Counted y = new Counted();
         y.put(0, 1, 0, 50);
         y.days(1);
         y.put(1, 1, 0, 40);
@@ -575,7 +575,7 @@ public final class PromisesTest {
     }
 
     private static void passes() {
-        StuckRecord x = new StuckRecord();
+        Counted x = new Counted();
         x.put(0, 1, 0, 0);
         x.put(0, 1, 0, 30);
         due("p19 first", x.pass(1, 0), 1);
@@ -592,7 +592,7 @@ public final class PromisesTest {
     }
 
     private static void wordsAndLegs() {
-        StuckRecord x = new StuckRecord();
+        Counted x = new Counted();
         x.put(0, 1, 9, 0);
         x.put(0, 1, 9, 59);
         Check.tell(x, 0, "frees 1000;");
@@ -622,7 +622,7 @@ public final class PromisesTest {
     }
 
     private static void orders() {
-        StuckRecord x = new StuckRecord();
+        Counted x = new Counted();
         Check.tell(x, 3, "strip 11 on strip 0;strip 11 on strip 1;strip 1 on strip 0;strip 5 on strip 6;"
             + "strip 6 on strip 7;strip 7 on strip 5;strip 8 on strip 7;strip 5 on strip 9;");
         due("p22 first", x.order(0), 0b011000011101);
@@ -641,7 +641,7 @@ public final class PromisesTest {
     }
 
     private static void covers() {
-        StuckRecord x = new StuckRecord();
+        Counted x = new Counted();
         due("p23 an empty look", x.sight(0), 1);
         due("p24 nothing to show", x.cover(0), 0);
         due("p23 look", x.sight(4095), 2);
@@ -665,7 +665,7 @@ public final class PromisesTest {
     }
 
     private static void wingPairs() {
-        StuckRecord x = new StuckRecord();
+        Counted x = new Counted();
         for (int i = 1; i < 8; i++) due("p25 vein", x.vein(0, 0, i), i);
         due("p26 unlike", x.wings(0), 0);
         due("p26 unlike", x.wings(1), 0);
@@ -682,7 +682,7 @@ public final class PromisesTest {
             {2, -1, 0}, {0, MOST, 0}, {0, 0, LEAST}}) {
             due("p25 wrong", x.vein(v[0], v[1], v[2]), -1);
         }
-        StuckRecord y = new StuckRecord();
+        Counted y = new Counted();
         for (int i = 0; i < 8; i++) {
             y.vein(0, i, (i + 1) % 8);
             y.vein(1, i * 3 % 8, (i + 1) * 3 % 8);
@@ -696,7 +696,7 @@ public final class PromisesTest {
     }
 
     private static void dates() {
-        StuckRecord x = new StuckRecord();
+        Counted x = new Counted();
         due("p27", x.weekday(20261118), 3);
         due("p27", x.weekday(19700101), 4);
         due("p27", x.weekday(18000228), 5);
@@ -713,7 +713,7 @@ public final class PromisesTest {
     }
 
     private static void leaning() {
-        StuckRecord x = new StuckRecord();
+        Counted x = new Counted();
         x.put(0, 2, 0, 9);
         x.put(0, 3, 0, 10);
         x.put(0, 5, 0, 11);
@@ -727,7 +727,7 @@ public final class PromisesTest {
     }
 
     private static void winds() {
-        StuckRecord x = new StuckRecord();
+        Counted x = new Counted();
         due("p30 none", x.go(-1), -1);
         x.put(0, 1, 9, 0);
         x.put(0, 1, 9, 1);
@@ -753,7 +753,7 @@ public final class PromisesTest {
     }
 
     private static void squiresAndHands() {
-        StuckRecord x = new StuckRecord();
+        Counted x = new Counted();
         x.put(0, 9, 0, 0);
         due("p31 no wasp", x.squires(0), 0);
         due("p31 no wasp", x.squires(1), 0);
@@ -768,7 +768,7 @@ public final class PromisesTest {
         due("p31 4 and 4 and 1111", x.squires(0), 0);
         due("p31 another what", x.squires(2), -1);
         due("p31 another what", x.squires(-1), -1);
-        StuckRecord y = new StuckRecord();
+        Counted y = new Counted();
         for (int i = 0; i < 20; i++) y.put(4, 9, 0, i);
         due("p31 twenty", y.squires(0), 0);
         due("p31 ten", y.squires(1), 10);
@@ -784,7 +784,7 @@ public final class PromisesTest {
     }
 
     private static void games() {
-        StuckRecord x = new StuckRecord();
+        Counted x = new Counted();
         due("p33 nothing", x.game(0), -1);
         x.put(0, 4, 0, 50);
         due("p33 4 is lost", x.game(0), -1);
@@ -797,7 +797,7 @@ public final class PromisesTest {
         x.put(0, 5, 0, 20);
         due("p33 the least inch", x.game(0), 2);
         due("p33 one", x.game(1), 1);
-        StuckRecord y = new StuckRecord();
+        Counted y = new Counted();
         y.put(0, 4, 0, 0);
         y.put(0, 1, 0, 1);
         due("p33 of several the least inch", y.game(0), 0);
@@ -806,33 +806,45 @@ public final class PromisesTest {
         due("p33 another what", y.game(-1), -1);
     }
 
-    private static void undone() {
-        StuckRecord x = new StuckRecord();
+    /** Five days are gone; two of what can be undone are from days that the test undoes last. */
+    private static Counted aged() {
+        Counted x = new Counted();
         Check.tell(x, 0, "sticks 500;frees 500;slides 1;");
         Check.tell(x, 1, "on 0 wasp 3 4 at 8;on 1 wasp 3 4 at 9;on 2 fly 3 4 at 10;");
         Check.tell(x, 2, "on 1 wind 3;on 2 heat 9;on 2 dry 7;");
         x.put(0, 1, 9, 30);
         x.days(5);
-        int[] then = all(x);
+        return x;
+    }
+
+    private static void doFourAndUndo(Counted x) {
         x.days(1);
         x.act(1, 3, 3);
         x.put(1, 1, 1, 0);
         x.act(0, x.inch(0, 2), 0);
         due("p34 six", x.look(14), 6);
         for (int i = 0; i < 4; i++) due("p34 undo", x.undo(), true);
+    }
+
+    private static void undone() {
+        int[] then = all(aged());
+        Counted x = aged();
+        doFourAndUndo(x);
         same("p34", all(x), then);
-        due("p34 two left", x.look(14), 2);
-        x.days(1);
-        x.undo();
-        same("p34 once more", all(x), then);
-        due("p34", x.undo(), true);
-        due("p34", x.undo(), true);
-        due("p34 no more", x.undo(), false);
-        due("p34 day 3", x.look(7), 3);
+        Counted y = aged();
+        doFourAndUndo(y);
+        due("p34 two left", y.look(14), 2);
+        y.days(1);
+        y.undo();
+        same("p34 once more", all(y), then);
+        due("p34", y.undo(), true);
+        due("p34", y.undo(), true);
+        due("p34 no more", y.undo(), false);
+        due("p34 day 3", y.look(7), 3);
     }
 
     /** All that can be seen of what a day changes. */
-    private static int[] all(StuckRecord x) {
+    private static int[] all(Counted x) {
         int[] row = new int[1000];
         int n = 0;
         for (int w = 0; w < 10; w++) row[n++] = x.look(w);
@@ -847,7 +859,7 @@ public final class PromisesTest {
     }
 
     private static void forgotten() {
-        StuckRecord x = new StuckRecord();
+        Counted x = new Counted();
         x.put(0, 1, 1, 0);
         x.set(0, 60, 0);
         x.set(1, 0, 0);
@@ -885,8 +897,8 @@ public final class PromisesTest {
         due("p34 the image gone back to forgets", x.undo(), false);
     }
 
-    private static void images() {
-        StuckRecord x = new StuckRecord();
+    private static Counted told() {
+        Counted x = new Counted();
         x.put(2, 3, 4, 5);
         x.days(2);
         Check.tell(x, 0, "frees 7;");
@@ -895,49 +907,67 @@ public final class PromisesTest {
         x.words(1, 1);
         x.sight(5);
         x.vein(0, 0, 1);
-        int[] then = all(x);
-        due("p35 taken", x.image(true), true);
-        due("p35 what can be undone stays", x.look(14), 3);
-        for (int round = 0; round < 2; round++) {
-            x.undo();
-            x.put(1, 1, 1, 1);
-            x.days(3);
-            x.state(99);
-            x.set(4, 0, 3);
-            x.set(5, 0, 3);
-            x.act(0, 0, 0);
-            x.text(0);
-            x.text(3);
-            Check.tell(x, 1, "on 0 fly 1 1 at 1;");
-            Check.tell(x, 2, "on 0 wind 1;");
-            x.kind(3);
-            x.words(-1, 0);
-            x.sight(-1);
-            x.vein(0, -1, 0);
-            x.vein(1, 3, 4);
-            Check.feed(x, "frees");
-            x.text(0);
-            Check.feed(x, "slides 3");
-            due("p35 gone back", x.image(false), true);
-            due("p35 the fault stays", x.fault(1), 5);
-            due("p35 the tape stays", x.end(8), true);
-            x.end(0);
+        return x;
+    }
+
+    private static void changeAll(Counted x) {
+        x.undo();
+        x.put(1, 1, 1, 1);
+        x.days(3);
+        x.state(99);
+        x.set(4, 0, 3);
+        x.set(5, 0, 3);
+        x.act(0, 0, 0);
+        x.text(0);
+        x.text(3);
+        Check.tell(x, 1, "on 0 fly 1 1 at 1;");
+        Check.tell(x, 2, "on 0 wind 1;");
+        x.kind(3);
+        x.words(-1, 0);
+        x.sight(-1);
+        x.vein(0, -1, 0);
+        x.vein(1, 3, 4);
+        Check.feed(x, "frees");
+        x.text(0);
+        Check.feed(x, "slides 3");
+    }
+
+    private static void images() {
+        int[] then = all(told());
+        for (int rounds = 1; rounds <= 2; rounds++) {
+            Counted x = told();
+            due("p35 taken", x.image(true), true);
+            due("p35 what can be undone stays", x.look(14), 3);
+            for (int round = 0; round < rounds; round++) {
+                changeAll(x);
+                due("p35 gone back", x.image(false), true);
+                due("p35 the fault stays", x.fault(1), 5);
+                due("p35 the tape stays", x.end(8), true);
+                x.end(0);
+            }
             same("p35", all(x), then);
-            due("p35 law", x.of(0, 7), 7);
-            due("p35 texts", x.look(10) + 10 * x.look(11) + 100 * x.look(12) + 1000 * x.look(13), 1001);
-            due("p35 row", x.says(0), 1);
-            due("p35 word", x.words(0, 0), -1);
-            due("p35 word", x.words(2, 2), 2);
-            due("p35 look", x.cover(1), 1);
-            due("p35 wings", x.wings(1), 0);
-            due("p35 wing 1", x.vein(1, 6, 7), 1);
-            due("p35 wings", x.wings(1), 1440);
-            due("p35 nothing to undo", x.look(14), 0);
+        }
+        Counted y = told();
+        y.image(true);
+        for (int round = 0; round < 2; round++) {
+            changeAll(y);
+            due("p35 gone back", y.image(false), true);
+            y.end(0);
+            due("p35 law", y.of(0, 7), 7);
+            due("p35 texts", y.look(10) + 10 * y.look(11) + 100 * y.look(12) + 1000 * y.look(13), 1001);
+            due("p35 row", y.says(0), 1);
+            due("p35 word", y.words(0, 0), -1);
+            due("p35 word", y.words(2, 2), 2);
+            due("p35 look", y.cover(1), 1);
+            due("p35 wings", y.wings(1), 0);
+            due("p35 wing 1", y.vein(1, 6, 7), 1);
+            due("p35 wings", y.wings(1), 1440);
+            due("p35 nothing to undo", y.look(14), 0);
         }
     }
 
     private static void looks() {
-        StuckRecord x = new StuckRecord();
+        Counted x = new Counted();
         for (int w : new int[] {-1, 15, LEAST, MOST}) due("p36 another what", x.look(w), -1);
         x.put(0, 1, 1, 0);
         x.put(0, 1, 1, 1);
