@@ -45,6 +45,7 @@ public final class DayTest {
         slideIsStopped();
         fallsOff();
         greatestInchFirst();
+        allTwenty();
         age();
         heatDries();
         howManyGotFree();
@@ -402,6 +403,10 @@ public final class DayTest {
             due("dry " + n + " of 50 under a thing", x.inch(4, 0), Math.max(0, 50 - n));
             due("dry " + n + " of 99", x.inch(59, 0), 99 - n);
             due("dry " + n + " of 0", x.inch(0, 0), 0);
+            x.set(0, 0, 99);
+            sky(x, "on 1 dry " + n + ";");
+            x.days(1);
+            due("dry " + n + " of 99", x.inch(0, 0), 99 - n);
         }
     }
 
@@ -553,6 +558,27 @@ public final class DayTest {
         due("12 has one near: 13", y.of(2, 3), 13);
         due("11 has one near then: 12", y.of(1, 3), 12);
         due("10 has none near then", y.of(0, 3), 10);
+    }
+
+    /** Each of the 20 that can lie on it has its part of a day. */
+    private static void allTwenty() {
+        Counted x = quiet("frees 1000 when age=0;frees 1000 when inch>36;frees 0;slides 1 when age=1;slides 0;");
+        for (int i = 0; i < 20; i++) x.put(0, 1, 9, 2 * i);
+        x.days(1);
+        due("twenty legs", x.look(6), 20);
+        for (int i = 0; i < 20; i++) {
+            due("a leg of each", x.of(i, 5), 5);
+            due("the leg of each", x.inch(2 * i, 1), 1);
+            due("each is older", x.of(i, 4), 1);
+        }
+        x.set(3, 19, 1);
+        due("the last one gets free", x.days(1), 1);
+        for (int i = 0; i < 19; i++) due("each other one slides", x.of(i, 3), 2 * i + 1);
+        Counted y = quiet("frees 1000;slides 0;");
+        for (int i = 0; i < 20; i++) y.put(0, 1, 9, 2 * i);
+        for (int i = 0; i < 20; i++) y.set(3, i, 1);
+        due("all get free", y.days(1), 20);
+        due("none is left", y.look(0), 0);
     }
 
     /** "AGE of each one more (999 at most)". */

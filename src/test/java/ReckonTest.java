@@ -19,12 +19,14 @@ public final class ReckonTest {
         orderOfAChain();
         orderOfBranches();
         orderOfRounds();
+        orderToldAnew();
         lookBounds();
         fewestLooks();
         leastSetOfLooks();
         veinBounds();
         wingsWithoutVeins();
         wingsOfOneVein();
+        wingsByEachVein();
         wingsOfManyVeins();
         wingsThatAreUnlike();
         everyDay();
@@ -153,6 +155,26 @@ public final class ReckonTest {
         }
     }
 
+    /** Of what was told before nothing is left. */
+    private static void orderToldAnew() {
+        Counted x = strips("strip 0 on strip 1;strip 1 on strip 2;strip 2 on strip 0;");
+        due("rounds", x.order(1), 7);
+        due("earliest", x.order(10), -1);
+        Check.tell(x, 3, "strip 3 on strip 0;");
+        due("no rounds", x.order(1), 0);
+        due("earliest 0", x.order(10), 0);
+        due("earliest 3", x.order(13), 1);
+        due("under 0", x.order(30), 8);
+        due("first", x.order(0), 4095 - 8);
+        due("tops", x.order(2), 4094);
+        Check.tell(x, 3, "strip 3 on strip 3;");
+        due("as before", x.order(30), 8);
+        x.text(3);
+        due("none", x.order(30), 0);
+        due("first", x.order(0), 4095);
+        due("tops", x.order(2), 4095);
+    }
+
     /** "(up to 8; 12 bits)", "(strips NONE: none is then): how many; NONE if one can't be, or there are eight". */
     private static void lookBounds() {
         Counted x = new Counted();
@@ -268,6 +290,23 @@ public final class ReckonTest {
         }
     }
 
+    /** Which points have no vein may be unlike in the two wings. */
+    private static void wingsByEachVein() {
+        for (int a = 0; a < 8; a++) {
+            for (int b = a + 1; b < 8; b++) {
+                Counted x = new Counted();
+                x.vein(0, a, b);
+                for (int c = 0; c < 8; c++) {
+                    for (int d = c + 1; d < 8; d++) {
+                        x.vein(1, c, d);
+                        due("vein " + a + b + " and " + c + d, x.wings(1), 2 * 720);
+                        x.vein(1, -1, 0);
+                    }
+                }
+            }
+        }
+    }
+
     private static void wings(int want, int[] veins, int[] otherVeins) {
         Counted x = new Counted();
         for (int i = 0; i + 1 < veins.length; i += 2) x.vein(0, veins[i], veins[i + 1]);
@@ -278,6 +317,9 @@ public final class ReckonTest {
 
     private static void wingsOfManyVeins() {
         wings(2 * 120, new int[] {0, 1, 1, 2}, new int[] {3, 7, 4, 3});
+        wings(2 * 120, new int[] {5, 6, 6, 7}, new int[] {1, 0, 0, 2});
+        wings(1, new int[] {0, 1, 0, 2, 2, 3, 0, 4, 4, 5, 5, 6}, new int[] {7, 6, 7, 5, 5, 4, 7, 3, 3, 2, 2, 1});
+        wings(1, new int[] {7, 6, 7, 5, 5, 4, 7, 3, 3, 2, 2, 1}, new int[] {1, 4, 4, 0, 6, 2, 3, 6, 6, 1, 5, 3});
         wings(8 * 24, new int[] {0, 1, 2, 3}, new int[] {7, 5, 6, 4});
         wings(6 * 120, new int[] {0, 1, 1, 2, 2, 0}, new int[] {5, 6, 5, 7, 7, 6});
         wings(384, new int[] {0, 1, 2, 3, 4, 5, 6, 7}, new int[] {0, 4, 1, 5, 2, 6, 3, 7});

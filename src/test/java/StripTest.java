@@ -17,6 +17,7 @@ public final class StripTest {
 
     public static void main(String[] args) {
         firstValues();
+        firstValuesAgain();
         inchBounds();
         glueBounds();
         putBounds();
@@ -49,6 +50,25 @@ public final class StripTest {
         due("put", x.put(5, 9, 8, 59), 0);
         int[] want = {5, 9, 8, 59, 0, 6};
         for (int w = 0; w < 6; w++) due("new thing " + w, x.of(0, w), want[w]);
+    }
+
+    /** AGE and LIMBS are so at first of one that comes where another one was, too. */
+    private static void firstValuesAgain() {
+        Counted x = new Counted();
+        Check.tell(x, 0, "sticks 1000 when kind=5;sticks 0;frees 0;slides 0;");
+        Check.tell(x, 1, "on 3 fly 9 9 at 5;on 3 veil 8 7 at 5;");
+        x.put(1, 9, 9, 5);
+        x.set(3, 0, 1);
+        x.days(3);
+        x.act(0, 0, 0);
+        due("put anew", x.put(2, 3, 4, 5), 1);
+        int[] second = {2, 3, 4, 5, 0, 6};
+        for (int w = 0; w < 6; w++) due("the second " + w, x.of(1, w), second[w]);
+        x.set(3, 1, 0);
+        x.act(0, 1, 0);
+        x.days(1);
+        int[] third = {5, 8, 7, 5, 1, 6};
+        for (int w = 0; w < 6; w++) due("the third " + w, x.of(2, w), third[w]);
     }
 
     /** "INCHES 0 (at the tack) .. 59". */

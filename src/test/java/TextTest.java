@@ -580,5 +580,11 @@ public final class TextTest {
         Check.tell(x, LAW, "frees 1" + "+1".repeat(196) + ";");
         x.put(0, 1, 0, 0);
         due("197", x.of(0, 7), 197);
+        for (int i = 0; i < 10; i++) {
+            due("well", Check.tell(x, LAW, "frees 2" + "*1".repeat(190) + "+" + i + ";"), 1);
+            due("its value", x.of(0, 7), 2 + i);
+            due("a fault", Check.tell(x, LAW, "frees 2" + "*1".repeat(190) + "+;"), -1);
+            due("its value", x.of(0, 7), 2 + i);
+        }
     }
 }

@@ -21,6 +21,7 @@ public final class ThoughtTest {
         heapsOfNone();
         heapsAreNear();
         greatestHeap();
+        heapsThatTurnBack();
         rowOfKinds();
         saysInOrder();
         waysToSay();
@@ -33,6 +34,7 @@ public final class ThoughtTest {
         leanInARow();
         goBounds();
         goCountsWhoCouldGo();
+        goOfTwenty();
         squiresOfFew();
         squiresOfSeveralWays();
         gameOfOne();
@@ -207,6 +209,7 @@ public final class ThoughtTest {
         x.act(0, 5, 0);
         due("of six", x.heaps(1), 6);
         due("from 21", x.heaps(2), 21);
+        for (int w : new int[] {LEAST, -1, 3, MOST}) due("another what " + w, x.heaps(w), -1);
         Counted y = new Counted();
         for (int i = 0; i < 20; i++) y.put(0, 1, 0, 3 * i);
         due("twenty parts", y.heaps(0), 20);
@@ -214,8 +217,26 @@ public final class ThoughtTest {
         for (int i = 0; i < 19; i++) z.put(0, 1, 0, i);
         due("one part", z.heaps(0), 1);
         due("of nineteen", z.heaps(1), 19);
+        due("from 0", z.heaps(2), 0);
         z.put(0, 1, 0, 19);
         due("of twenty", z.heaps(1), 20);
+    }
+
+    /** A part that hangs together by any of the four ways alone, back towards the tack too. */
+    private static void heapsThatTurnBack() {
+        int[][] rows = {{0, 10, 11, 12, 2}, {2, 12, 11, 10, 0}, {5, 15, 14, 24, 25, 26, 16}, {30, 31, 32, 22, 12, 11, 10},
+            {40, 50, 51, 52, 53, 43, 33, 32, 31, 30}, {9, 19, 18, 28, 27, 17, 7}};
+        for (int[] row : rows) {
+            Counted x = new Counted();
+            int least = 59;
+            for (int i : row) {
+                x.put(0, 1, 0, i);
+                least = Math.min(least, i);
+            }
+            due("one part", x.heaps(0), 1);
+            due("of all", x.heaps(1), row.length);
+            due("its least", x.heaps(2), least);
+        }
     }
 
     /** "A KIND more of the row for SAYS (NONE: it is empty then): how many; NONE if one can't be, or there are eight". */
@@ -492,6 +513,8 @@ public final class ThoughtTest {
         due("the least is the first", x.go(-1), 0);
         Check.tell(x, 0, "frees 500 when wind=3;frees 500 when wind=7;frees 0;");
         due("the least of two", x.go(-1), 3);
+        Check.tell(x, 0, "frees 500 when wind=10;frees 0;");
+        due("10 is no wind", x.go(-1), -1);
     }
 
     /** "how many THINGS with 1 LIMB at most would get free (frees 500 at least)"; WIND stays. */
@@ -518,6 +541,22 @@ public final class ThoughtTest {
         x.set(0, 0, 0);
         due("270 by what is told nowhere", x.of(0, 7), 240);
         due("never", x.go(-1), -1);
+    }
+
+    /** Of twenty all are counted; of those that are gone none. */
+    private static void goOfTwenty() {
+        Counted x = told("frees 500;");
+        for (int i = 0; i < 20; i++) x.put(0, 1, 0, i);
+        for (int i = 0; i < 20; i++) x.set(3, i, 1);
+        due("twenty", x.go(0), 20);
+        x.act(0, 19, 0);
+        due("nineteen", x.go(9), 19);
+        x.act(0, 0, 0);
+        due("eighteen", x.go(9), 18);
+        Check.tell(x, 0, "frees 1000;");
+        due("all get free", x.days(1), 18);
+        due("none", x.go(9), 0);
+        due("none", x.go(-1), -1);
     }
 
     /** "(no wasp: 0, 0)", "(one may be empty)". */
@@ -553,6 +592,7 @@ public final class ThoughtTest {
 
     /** "how many are on the side of the wasp with the least INCH (of several ways the fewest)". */
     private static void squiresOfSeveralWays() {
+        for (int size = 1; size <= 9; size++) balance(size, 1, size);
         balance(0, 1, 5, 2, 3);
         balance(0, 2, 2, 3, 5);
         balance(0, 2, 1, 3, 2, 2);
