@@ -49,6 +49,7 @@ public final class DayTest {
         age();
         heatDries();
         howManyGotFree();
+        linesOfTheBook();
         CHECK.finish();
     }
 
@@ -625,6 +626,28 @@ public final class DayTest {
         due("the heat of that day", y.inch(9, 0), 49);
         y.days(1);
         due("no more", y.inch(9, 0), 49);
+    }
+
+    /** "DAY, what (0 came, 1 gone again, 2 lost a leg, 3 freed, 4 fell off, 5 tweezed), which, how much", all on one day. */
+    private static void linesOfTheBook() {
+        Counted x = quiet("sticks 1000 when kind=1;sticks 0;frees 1000 when kind=2;frees 0;slides 2 when kind=3;slides 0;");
+        flight(x, "on 7 fly 1 0 at 11;on 7 date 1 0 at 12;");
+        x.days(7);
+        x.put(4, 1, 0, 13);
+        x.put(2, 1, 0, 14);
+        x.put(2, 1, 0, 15);
+        x.put(3, 1, 0, 58);
+        x.set(3, 1, 1);
+        x.act(0, 0, 0);
+        x.act(1, 13, 9);
+        due("one got free, one fell off", x.days(1), 2);
+        int[][] lines = {{7, 0, 0, 13}, {7, 0, 1, 14}, {7, 0, 2, 15}, {7, 0, 3, 58}, {7, 5, 0, 13}, {7, 1, -1, 11},
+            {7, 0, 4, 12}, {7, 3, 1, 14}, {7, 2, 2, 15}, {7, 4, 3, 59}};
+        due("lines", x.look(8), lines.length);
+        for (int i = 0; i < lines.length; i++) {
+            for (int w = 0; w < 4; w++) due("line " + i + " what " + w, x.book(i, w), lines[i][w]);
+        }
+        for (int w = 0; w < 4; w++) due("no line more", x.book(lines.length, w), -2);
     }
 
     /** "how many got free or fell off", of all the days together; tweezed ones are not among them. */

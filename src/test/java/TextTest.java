@@ -238,6 +238,8 @@ public final class TextTest {
         }
     }
 
+    private static final List<String> NUMBERS = List.of("kind", "size", "life", "inch", "glue", "age", "limbs", "wind",
+        "heat", "near", "day");
     private static final List<String> ALL = List.of("sticks", "frees", "slides", "when", "or", "and", "not", "kind",
         "size", "life", "inch", "glue", "age", "limbs", "wind", "heat", "near", "day", "on", "at", "fly", "date",
         "sleeve", "word", "wasp", "veil", "boil", "dry", "strip");
@@ -256,15 +258,14 @@ public final class TextTest {
 
     /** "letters as many as stand together are KEYWORDS (those told here for that text) or none". */
     private static void keywordsOfTheLaw() {
-        List<String> numbers = List.of("kind", "size", "life", "inch", "glue", "age", "limbs", "wind", "heat", "near", "day");
         gap(LAW, "", " 1;", List.of("sticks", "frees", "slides"));
-        gap(LAW, "sticks ", ";", numbers);
-        gap(LAW, "frees 2*", "+1;", numbers);
+        gap(LAW, "sticks ", ";", NUMBERS);
+        gap(LAW, "frees 2*", "+1;", NUMBERS);
         gap(LAW, "slides 1 ", " 1=1;", List.of("when"));
-        gap(LAW, "sticks 1 when ", " < 5;", numbers, List.of("not"));
-        gap(LAW, "sticks 1 when 1 = ", ";", numbers);
+        gap(LAW, "sticks 1 when ", " < 5;", NUMBERS, List.of("not"));
+        gap(LAW, "sticks 1 when 1 = ", ";", NUMBERS);
         gap(LAW, "sticks 1 when 1=1 ", " 1=1;", List.of("or", "and"));
-        gap(LAW, "sticks 1 when (", " 1=1);", List.of("not"), numbers);
+        gap(LAW, "sticks 1 when (", " 1=1);", List.of("not"), NUMBERS);
         gap(LAW, "sticks 1/", ";", List.of());
     }
 
@@ -540,6 +541,17 @@ public final class TextTest {
         fault(LAW, 3, law + "not (not (not (not (1=1 or |not 1=1))));");
         well(LAW, law + "(1=1) and ".repeat(9) + "not 1=1 or ".repeat(10) + "1=1;", 1);
         well(LAW, "frees 1 when ((((((((1=1))))))));".repeat(9), 9);
+        for (String word : NUMBERS) {
+            well(LAW, law + "((((((((" + word + "=1))))))));", 1);
+            well(LAW, law + "not ".repeat(8) + word + "=" + word + ";", 1);
+        }
+        for (String word : List.of("and", "or", "when", "sticks", "frees", "slides", "on")) {
+            fault(LAW, 1, law + "((((((((|" + word + " 1=1))))))));");
+            fault(LAW, 1, law + "not ".repeat(8) + "|" + word + " 1=1;");
+        }
+        fault(LAW, 1, law + "((((((((|)))))))));");
+        fault(LAW, 1, law + "((((((((|;");
+        fault(LAW, 1, law + "((((((((|");
     }
 
     /** "FAULTS, the first by its place, at one place the least". */
@@ -576,6 +588,9 @@ public final class TextTest {
         fault(LAW, 1, "frees |" + "(".repeat(394));
         fault(LAW, 3, "frees 1 when ((((((((|" + "(".repeat(379));
         well(LAW, "frees 1 when 1=1" + " or 1=1".repeat(54) + "     ;", 1);
+        well(LAW, "frees 1when1=1" + "or1=1".repeat(77) + ";", 1);
+        well(LAW, "frees 1when1=1" + "and1=1".repeat(64) + ";", 1);
+        fault(LAW, 1, "frees 1when1=1" + "and1=1".repeat(64) + "|o");
         Counted x = new Counted();
         Check.tell(x, LAW, "frees 1" + "+1".repeat(196) + ";");
         x.put(0, 1, 0, 0);

@@ -307,6 +307,14 @@ public final class ThoughtTest {
         due("1 ahead of 0", x.says(1), 45);
         x.kind(0);
         due("1, 0, 0", x.says(1), 120);
+        Counted y = new Counted();
+        for (int i = 0; i < 20; i++) y.put(5, 1, 0, 59 - i);
+        int[] ways = {20, 190, 1140, 4845, 15504, 38760, 77520, 125970};
+        for (int n = 0; n < 8; n++) {
+            y.kind(5);
+            due("of twenty, " + (n + 1), y.says(1), ways[n]);
+            due("whether", y.says(0), 1);
+        }
     }
 
     /** A THING for each age told, from the tack on, the oldest put first. */
